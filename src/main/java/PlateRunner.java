@@ -219,7 +219,7 @@ public final class PlateRunner {
         if (first && n == 0) {
             return NONE;
         }
-        int best = Games.bestSaving(asked, asked.start, asked.packed(), n);
+        int best = Games.saving(asked, n);
         return first ? Games.choiceOf(best) : Games.valueOf(best);
     }
 
@@ -231,7 +231,7 @@ public final class PlateRunner {
         if (first && n == 0) {
             return NONE;
         }
-        int best = Games.bestAgainst(asked, asked.start, asked.packed(), n);
+        int best = Games.duelling(asked, n);
         return first ? Games.choiceOf(best) : Games.valueOf(best);
     }
 
@@ -1365,7 +1365,8 @@ public final class PlateRunner {
         }
 
         private int followerOf(int at, int plate) {
-            return follower[at * MOST_PLATES + plate];
+            int i = at * MOST_PLATES + plate;
+            return stage.has(plate) && i >= 0 && i < follower.length ? follower[i] : NONE;
         }
 
         private int beatsTo(int at, int plate) {
@@ -1396,7 +1397,7 @@ public final class PlateRunner {
         }
 
         int behindFirst(int plate) {
-            return stage.has(plate) ? followerOf(0, plate) : NONE;
+            return followerOf(0, plate);
         }
 
         int reached() {
@@ -1612,7 +1613,7 @@ public final class PlateRunner {
                     trial.copyFrom(stage);
                     trial.place[i] = stage.place[j];
                     trial.place[j] = stage.place[i];
-                    if (keeper.explore(trial, false)) {
+                    if (stage.place[i] != stage.place[j] && keeper.explore(trial, false)) {
                         return 10 * i + j;
                     }
                 }
@@ -1637,7 +1638,16 @@ public final class PlateRunner {
             return value * 8 + WAITS - choice;
         }
 
-        static int bestSaving(Stage stage, int at, int lefts, int n) {
+        static int saving(Stage stage, int n) {
+            return bestSaving(stage, stage.start, stage.packed(), Math.min(n, MOST_SAVE));
+        }
+
+        /** The turns of both are counted: of three, the rival has one. */
+        static int duelling(Stage stage, int turns) {
+            return bestAgainst(stage, stage.start, stage.packed(), Math.min(turns, MOST_DUEL));
+        }
+
+        private static int bestSaving(Stage stage, int at, int lefts, int n) {
             int most = Beats.standing(lefts);
             if (n <= 0 || most == 0) {
                 return rated(most, WAITS);
@@ -1659,7 +1669,7 @@ public final class PlateRunner {
             return best;
         }
 
-        static int bestAgainst(Stage stage, int at, int lefts, int turns) {
+        private static int bestAgainst(Stage stage, int at, int lefts, int turns) {
             if (turns <= 0) {
                 return rated(Beats.standing(lefts), WAITS);
             }

@@ -26,8 +26,25 @@ public final class ModelTest {
             kept += x.keep(0, 0);
             mostReached = Math.max(mostReached, x.need(0, 5));
         }
+        mostReached = Math.max(mostReached, heavy(r));
         System.out.println(kept + " of " + rounds + " stages are for ever, most stands " + mostReached);
         DUE.finish();
+    }
+
+    /** The stages with the most stands that there are: five plates at one place. */
+    private static int heavy(Random r) {
+        int most = 0;
+        int[][] lives = {{6, 6, 6, 6, 6}, {6, 5, 6, 5, 6}, {5, 5, 5, 5, 5}, {4, 6, 5, 6, 5}, {6, 6, 6, 6, 6}};
+        for (int[] life : lives) {
+            PlateRunner x = new PlateRunner();
+            Model.Scene s = new Model.Scene();
+            for (int v : life) s.plates.add(new Model.Plate(0, v, most == 0 ? v : v - r.nextInt(2)));
+            DUE.is(s.told(), Tape.tell(x, 0, -1, s.told()), 0);
+            keeps(x, s);
+            games(x, s, r);
+            most = Math.max(most, x.need(0, 5));
+        }
+        return most;
     }
 
     private static Model.Scene scene(Random r) {

@@ -476,12 +476,11 @@ public final class PromiseTest {
     private static void load() {
         PlateRunner x = with(THREE);
         // The run to 0 is kept, but leaves 1 LEFT to 1, one beat off.
-        int[] three = {3, 4, 2, 2, 0, 7, 3, 0, 0, 1, 0, 2, NONE};
-        for (int what = 0; what <= 12; what++) {
-            // ALONE, PAIRS and SWAP of it are looked at against the model.
-            if (what != 5 && what != 6 && what != 12) DUE.is("load " + what, x.load(0, what), three[what]);
+        int[] three = {3, 4, 2, 2, 0, 7, 3, 0, 0, 1, 0, 2};
+        for (int what = 0; what <= 11; what++) {
+            // PAIRS of it are looked at against the model.
+            if (what != 6) DUE.is("load " + what, x.load(0, what), three[what]);
         }
-        DUE.is("alone", x.load(0, 5), 7);
         int[] falling = {1, 0, 2, NONE, NONE};
         for (int k = 0; k < 5; k++) DUE.is("falling " + k, x.load(0, 20 + k), falling[k]);
         DUE.is("falling", x.load(0, 1000), NONE);
@@ -498,8 +497,7 @@ public final class PromiseTest {
         x = with(FAR);
         int[] far = {7, 6, 1, 9, 0, 2, 0, 1, 0, 0, 0, 9, NONE};
         for (int what = 0; what <= 12; what++) DUE.is("load " + what, x.load(0, what), far[what]);
-        // 1 at place 0 could be spun each beat, 0 at place 9 never be reached: changed for each other,
-        // by SPEED 9: 0 lives 1 beat only, so never both.
+        // 0 can't be reached in time where it stands; changed for 1 it can, but by SPEED 3 all else is too far.
         x = with("speed 3;plate 9 6 1;plate 0 6 6;plate 0 6 6;");
         DUE.is("late", x.load(0, 7), 1);
         DUE.is("swap", x.load(0, 12), NONE);
