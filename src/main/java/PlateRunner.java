@@ -53,8 +53,8 @@ public final class PlateRunner {
         imaged = new boolean[IMAGES];
         reader = new Reader();
         player = new Player();
-        keeper = new Keeper();
-        trials = new Trials(keeper);
+        trials = new Trials();
+        keeper = trials.keeper;
         rows = new Rows();
     }
 
@@ -1251,7 +1251,7 @@ public final class PlateRunner {
 
     /** All stands that kept rows lead to, which of them go on for ever, and how long the others last. */
     private static final class Keeper {
-        // At most one plate is spun in a beat and none lives longer than 6: by counting, 2146 is the most.
+        // At most one plate is spun in a beat and none lives longer than 6: by counting, there are at most 2146.
         private static final int MOST_STANDS = 2200;
         private static final int LEFTS = 7776;
         private static final int MOST_STEPS = 1000000;
@@ -1495,12 +1495,8 @@ public final class PlateRunner {
 
     /** Stages unlike the one told: which of them can be kept up for ever. */
     private static final class Trials {
-        private final Keeper keeper;
+        final Keeper keeper = new Keeper();
         private final Stage trial = new Stage();
-
-        Trials(Keeper itsKeeper) {
-            keeper = itsKeeper;
-        }
 
         private boolean areKept(Stage stage, int bits) {
             trial.copySome(stage, bits);

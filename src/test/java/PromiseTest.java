@@ -29,6 +29,7 @@ public final class PromiseTest {
         stopAndState();
         limitOfBeats();
         keep();
+        stagesToldAnew();
         need();
         behind();
         save();
@@ -242,6 +243,38 @@ public final class PromiseTest {
         DUE.is("100 beats can't be", x.stop(0, 0), 9);
         x = with("speed 1;start 9;plate 0 6 6;plate 9 5 5;", 1, show + "wait;".repeat(9) + "oil 1;wait;");
         DUE.is("oil takes no beat", x.stop(0, 0), 19);
+        // Sets of 9 beats, 99 in all; then some of one beat, a run the last.
+        StringBuilder sets = new StringBuilder();
+        for (int i = 0; i < 12; i++) sets.append(i == 0 ? "run 0;" : "set " + i % 2 + ";");
+        x = with("speed 1;start 8;plate 0 6 6;plate 8 6 6;", 1, sets.toString());
+        DUE.is("99 beats by a set", x.stop(0, 0), 11);
+        DUE.is("99 beats", x.state(0, 0, 11, 0), 99);
+        x = with("speed 1;start 9;plate 0 6 6;plate 9 6 6;", 1, show + "wait;".repeat(7) + "set 0;run 0;run 0;");
+        DUE.is("99 beats by a run", x.stop(0, 0), 18);
+        DUE.is("99 beats", x.state(0, 0, 18, 0), 99);
+        x = with("speed 1;start 9;plate 0 6 6;plate 9 6 6;", 1, show + "wait;".repeat(8) + "set 0;gust 0;run 0;");
+        DUE.is("100 beats by a run", x.stop(0, 0), 19);
+    }
+
+    /** A stage told in the place of another is asked anew, however little they differ. */
+    private static void stagesToldAnew() {
+        String[] stages = {"speed 5;start 4;plate 0 6 6;plate 9 6 6;", "speed 4;start 4;plate 0 6 6;plate 9 6 6;",
+            "speed 5;start 9;plate 0 6 6;plate 9 6 6;", "speed 5;start 4;plate 0 6 6;", "speed 5;start 4;plate 0 6 6;plate 4 6 6;",
+            "speed 5;start 4;plate 0 6 6;plate 9 5 5;", "speed 5;start 4;plate 0 6 6;plate 9 6 5;", "speed 5;start 4;plate 0 6 6;plate 9 6 1;"};
+        PlateRunner x = with("");
+        for (String one : stages) {
+            for (String other : stages) {
+                Tape.tell(x, 0, 0, one);
+                x.keep(0, 0);
+                Tape.tell(x, 0, 0, other);
+                PlateRunner fresh = with(other);
+                for (int what = 0; what < 20; what++) {
+                    DUE.is(one + " then " + other + " keep " + what, x.keep(0, what), fresh.keep(0, what));
+                    DUE.is(one + " then " + other + " behind " + what, x.behind(0, what % 2, what / 2), fresh.behind(0, what % 2, what / 2));
+                }
+                for (int what = 5; what < 7; what++) DUE.is("need " + what, x.need(0, what), fresh.need(0, what));
+            }
+        }
     }
 
     private static void keepIs(String stage, int... dues) {
