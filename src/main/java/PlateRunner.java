@@ -1253,7 +1253,7 @@ public final class PlateRunner {
     private static final class Keeper {
         // At most one plate is spun in a beat and none lives longer than 6: by counting, there are at most 2146.
         private static final int MOST_STANDS = 2200;
-        private static final int LEFTS = 7776;
+        private static final int SLOTS = 4096;
         private static final int MOST_STEPS = 1000000;
 
         private static final int UNSEEN = 0;
@@ -1268,7 +1268,7 @@ public final class PlateRunner {
         private int ahead = 0;
         private int round = 0;
         private int roundBeats = 0;
-        private final short[] numberOf = new short[LEFTS * (MOST_PLATES + 1)];
+        private final short[] inSlot = new short[SLOTS];
         private final byte[] whereOf = new byte[MOST_STANDS];
         private final short[] leftsOf = new short[MOST_STANDS];
         private final byte[] mark = new byte[MOST_STANDS];
@@ -1314,31 +1314,37 @@ public final class PlateRunner {
             return isForever(0);
         }
 
+        /** The latest first: so none is looked for behind a slot that is free again already. */
         private void forget() {
-            for (int i = 0; i < stands; i++) {
-                numberOf[keyOf(whereOf[i], leftsOf[i])] = 0;
+            for (int i = stands - 1; i >= 0; i--) {
+                inSlot[slotOf(whereOf[i], leftsOf[i])] = 0;
             }
             stands = 0;
         }
 
-        private static int keyOf(int where, int lefts) {
-            int key = where;
-            for (int k = 0; k < MOST_PLATES; k++) {
-                key = key * MOST_LIFE + Math.max(0, Beats.leftOf(lefts, k) - 1);
+        /** The slot that a stand has, or the free one that it would take: there are more slots than stands. */
+        private int slotOf(int where, int lefts) {
+            int slot = (where << 15 | lefts) * 0x9E3779B1 >>> 20;
+            for (int i = 0; i < SLOTS; i++) {
+                int there = inSlot[slot] - 1;
+                if (there < 0 || there >= MOST_STANDS || whereOf[there] == where && leftsOf[there] == lefts) {
+                    return slot;
+                }
+                slot = slot + 1 & SLOTS - 1;
             }
-            return Math.max(0, Math.min(key, LEFTS * (MOST_PLATES + 1) - 1));
+            return slot;
         }
 
         private int numberFor(int where, int lefts) {
-            int key = keyOf(where, lefts);
-            if (numberOf[key] == 0 && stands < MOST_STANDS) {
+            int slot = slotOf(where, lefts);
+            if (inSlot[slot] == 0 && stands < MOST_STANDS) {
                 whereOf[stands] = (byte) where;
                 leftsOf[stands] = (short) lefts;
                 mark[stands] = UNSEEN;
                 stands++;
-                numberOf[key] = (short) stands;
+                inSlot[slot] = (short) stands;
             }
-            return numberOf[key] - 1;
+            return inSlot[slot] - 1;
         }
 
         private void enter(int at) {
