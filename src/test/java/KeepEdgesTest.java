@@ -32,6 +32,7 @@ public final class KeepEdgesTest {
         behindKept();
         behindLasts();
         behindRefused();
+        asTold();
         DUE.finish();
     }
 
@@ -185,6 +186,7 @@ public final class KeepEdgesTest {
         needIs("start 5;plate 0 6 1;", 1, 1);
         needIs("start 5;plate 9 6 1;", 1, 512);
         needIs("speed 1;plate 4 6 2;", 1, 0b111000);
+        needIs("speed 9;plate 0 6 6;", 1, 1023);
         needIs("speed 9;plate 0 6 2;", 1, 1023);
         needIs("speed 8;plate 0 6 2;", 1, 511);
         needIs("plate 0 1 1;plate 0 1 1;", 1, 0);
@@ -256,6 +258,7 @@ public final class KeepEdgesTest {
 
     private static void moves() {
         DUE.says("MOVES of a PLATE: places (bits, 0 .. 9) which, being its PLACE, make it FOREVER");
+        needIs("speed 9;plate 0 6 6;", 20, 1023);
         needIs("speed 9;plate 0 6 2;", 20, 1023);
         needIs("speed 8;plate 0 6 2;", 20, 511);
         needIs("start 9;plate 0 6 1;", 20, 512);
@@ -289,6 +292,31 @@ public final class KeepEdgesTest {
                 DUE.is("stage -1", x.need(-1, what), -2);
             }
             for (int far : Given.FAR_OFF) DUE.is("stage " + far, x.need(far, 0), -2);
+        }
+    }
+
+    private static void asTold() {
+        DUE.says("(Of a STAGE as told.): whatever was asked before");
+        String[] stages = {BARE, TWINS, FAR, APART, "plate 0 1 1;plate 0 6 4;", "plate 0 6 6;" + TWINS, "plate 0 6 1;plate 0 6 2;"};
+        for (String one : stages) {
+            for (String other : stages) {
+                PlateRunner x = Given.stage(one);
+                Tape.tell(x, 0, NONE, other);
+                PlateRunner fresh = Given.stage(one);
+                for (int what = 0; what < 25; what++) {
+                    x.need(1, what);
+                    x.keep(1, what % 6);
+                    x.load(1, 5 + what % 8);
+                    String t = one + " beside " + other + " ";
+                    DUE.is(t + "keep " + what, x.keep(0, what), Given.stage(one).keep(0, what));
+                    x.need(0, what);
+                    DUE.is(t + "behind " + what, x.behind(0, what / 3, what % 3), fresh.behind(0, what / 3, what % 3));
+                    x.load(0, 5 + what % 8);
+                    DUE.is(t + "reached", x.need(0, 5), fresh.need(0, 5));
+                    DUE.is(t + "need " + what, x.need(0, what), Given.stage(one).need(0, what));
+                    DUE.is(t + "safe", x.need(0, 6), fresh.need(0, 6));
+                }
+            }
         }
     }
 

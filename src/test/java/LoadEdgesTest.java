@@ -124,6 +124,9 @@ public final class LoadEdgesTest {
         // 1 falls in the beat in which 0 is spun, or stands until its turn comes.
         loadIs("plate 0 6 6;plate 0 6 1;", 8, 0);
         loadIs("plate 0 6 6;plate 0 6 2;", 8, 1);
+        // One beat and 1 from pole to pole: each is seen every 4 beats.
+        loadIs("speed 1;plate 0 4 4;plate 1 4 4;", 8, 1);
+        loadIs("speed 1;plate 0 3 3;plate 1 3 3;", 8, 0);
         // It can be kept up for ever, but not by turns.
         DUE.is("for ever", Given.stage("plate 0 6 6;plate 0 2 2;plate 0 6 6;").keep(0, 0), 1);
         loadIs("plate 0 6 6;plate 0 2 2;plate 0 6 6;", 8, 0);
@@ -142,6 +145,11 @@ public final class LoadEdgesTest {
         loadIs("plate 0 6 6;".repeat(4) + "plate 0 4 4;", 9, 3);
         loadIs("plate 0 4 4;" + "plate 0 6 6;".repeat(4), 9, 4);
         loadIs("plate 0 6 6;".repeat(5), 9, 99);
+        loadIs("speed 1;plate 0 4 4;plate 1 4 4;", 9, 99);
+        loadIs("speed 1;plate 0 3 3;plate 1 3 3;", 9, 2);
+        // From START 5 beats and 1, then one each.
+        loadIs("speed 1;start 5;plate 0 6 6;", 9, 99);
+        loadIs("speed 1;start 6;plate 0 6 6;", 9, 0);
     }
 
     private static void centreIs(String stage, int place, int ways) {
@@ -151,8 +159,7 @@ public final class LoadEdgesTest {
 
     private static void centre() {
         DUE.says("CENTRE: the place, 0 .. 9, from which WAYS to all PLATES together are least, of several the least; how much");
-        centreIs("speed 1;plate 9 1 1;", 9, 0);
-        centreIs("speed 1;plate 0 1 1;", 0, 0);
+        for (int place = 0; place <= 9; place++) centreIs("speed 1;plate " + place + " 1 1;", place, 0);
         centreIs("speed 9;start 9;plate 9 1 1;plate 0 1 1;", 0, 1);
         centreIs("speed 1;plate 0 1 1;plate 9 1 1;", 0, 9);
         centreIs("speed 1;plate 2 1 1;plate 9 1 1;plate 5 1 1;", 5, 7);

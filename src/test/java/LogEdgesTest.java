@@ -22,6 +22,7 @@ public final class LogEdgesTest {
         up();
         leastOfNothing();
         leastRefused();
+        another();
         DUE.finish();
     }
 
@@ -235,6 +236,29 @@ public final class LogEdgesTest {
         leastIs("plate 0 6 6;", "lay 0 0;", NONE, NONE, NONE);
         leastIs("plate 0 6 6;", "stood 1 0;", NONE, NONE, NONE);
         leastIs("speed 1;plate 9 6 6;", "runs 2;", NONE, NONE, NONE);
+    }
+
+    private static void another() {
+        DUE.says("By a LOG of a STAGE: by this one alone, whichever was asked for before");
+        PlateRunner x = Given.log("speed 1;plate 5 6 6;plate 5 6 6;", "runs 1;");
+        Tape.tell(x, 2, NONE, "runs 4;lay 0 0;");
+        Tape.tell(x, 0, NONE, "plate 0 2 1;plate 0 2 2;");
+        for (int round = 0; round < 3; round++) {
+            DUE.is("ask", x.fits(0, 0, 1), 60);
+            DUE.is("ask", x.fits(0, 1, 1), NONE);
+            DUE.is("ask", x.fits(1, 0, 1), 10);
+            int[] dues = {6, 6, 1};
+            int[] others = {1, 1, 2};
+            for (int what = 0; what < 3; what++) {
+                DUE.is("least " + what, x.least(0, 0, what), dues[what]);
+                DUE.is("nothing fits " + what, x.least(0, 1, what), NONE);
+                DUE.is("at the other stage " + what, x.least(1, 0, what), others[what]);
+            }
+            DUE.is("rows", x.fits(0, 0, 0), 2);
+            DUE.is("no rows", x.fits(0, 1, 0), 0);
+            DUE.is("no sure run", x.fits(0, 1, 2), NONE);
+            DUE.is("no k-th", x.fits(0, 1, 10), -2);
+        }
     }
 
     private static void leastRefused() {

@@ -1,4 +1,12 @@
 import java.lang.management.ManagementFactory;
+import java.lang.reflect.Array;
+import java.lang.reflect.Field;
+import java.lang.reflect.Modifier;
+import java.util.ArrayDeque;
+import java.util.Collections;
+import java.util.Deque;
+import java.util.IdentityHashMap;
+import java.util.Set;
 import com.sun.management.ThreadMXBean;
 
 /** All calls of a run live in one room: an object's rows are made with it, and no call makes more. */
@@ -8,6 +16,30 @@ public final class RoomTest {
 
     private static long made() {
         return BEAN.getThreadAllocatedBytes(Thread.currentThread().getId());
+    }
+
+    /** {objects and arrays, fields and elements} that an object holds. */
+    private static int[] held(Object first) throws IllegalAccessException {
+        Set<Object> seen = Collections.newSetFromMap(new IdentityHashMap<>());
+        Deque<Object> todo = new ArrayDeque<>();
+        todo.add(first);
+        int parts = 0;
+        while (!todo.isEmpty()) {
+            Object one = todo.remove();
+            if (!seen.add(one)) continue;
+            if (one.getClass().isArray()) {
+                parts += Array.getLength(one);
+                if (one instanceof Object[] many) for (Object o : many) if (o != null) todo.add(o);
+                continue;
+            }
+            for (Field f : one.getClass().getDeclaredFields()) {
+                if (Modifier.isStatic(f.getModifiers())) continue;
+                parts++;
+                f.setAccessible(true);
+                if (!f.getType().isPrimitive() && f.get(one) != null) todo.add(f.get(one));
+            }
+        }
+        return new int[] {seen.size(), parts};
     }
 
     private static int askAll(PlateRunner x) {
@@ -21,7 +53,12 @@ public final class RoomTest {
         return sum + (x.image(0) ? 1 : 0) + (x.again(0) ? 1 : 0);
     }
 
-    public static void main(String[] args) {
+    public static void main(String[] args) throws IllegalAccessException {
+        int[] held = held(new PlateRunner());
+        System.out.println("an object holds " + held[0] + " objects and arrays, " + held[1] + " fields and elements");
+        // A hundred objects in one run take less than the room's 600,000 and 7.3 million.
+        DUE.is("few objects", 100 * held[0] < 60000, true);
+        DUE.is("few elements", 100 * held[1] < 5000000, true);
         long before = made();
         PlateRunner x = new PlateRunner();
         long object = made() - before;

@@ -34,6 +34,7 @@ public final class ShowEdgesTest {
         afterSpun();
         afterLongest();
         afterWaysAndMost();
+        afterAnother();
         DUE.finish();
     }
 
@@ -330,6 +331,9 @@ public final class ShowEdgesTest {
         // Seed 4: oil at one of LIFE 6: nothing; at one of LIFE 5: 6.
         DUE.is("oil", x.drawn(0, 4, 1, 20), 6);
         DUE.is("oil", Given.stage("plate 0 5 5;").drawn(0, 4, 1, 20), 6);
+        // Seed 9: 20473, 3: a run; 43923 below 1: 0.
+        DUE.is("one plate", x.drawn(0, 9, 1, 1), 0);
+        DUE.is("one plate", Given.stage("plate 0 5 5;").drawn(0, 9, 1, 0), 1);
         DUE.says("a PLATE, below all");
         // Seed 0: 0: a run; 54236 below 1, 2, 3, 4, 5: 0, 0, 2, 0, 1.
         int[] plates = {0, 0, 2, 0, 1};
@@ -440,6 +444,30 @@ public final class ShowEdgesTest {
         afterIs("plate 0 6 1;plate 0 6 6;", "wait;gust 1;", 0, 0, NONE, 0, 0, 1);
         afterIs("plate 0 6 6;plate 0 6 3;", "wait;wait;gust 1;wait;wait;", 2, 0, NONE, 4, 0, 0);
         afterIs("plate 0 6 6;plate 0 6 3;", "wait;wait;wait;wait;wait;", 2, 0, NONE, 2, 0, 1);
+    }
+
+    private static void afterAnother() {
+        DUE.says("Of a SHOW at a STAGE: of this one alone, whichever was asked for before");
+        PlateRunner x = Given.show("speed 1;plate 0 6 2;plate 0 6 2;plate 5 6 6;", "run 0;run 2;wait;");
+        Tape.tell(x, 1, NONE, "");
+        Tape.tell(x, 0, NONE, "start 7;plate 7 6 6;plate 7 6 6;");
+        int[] nothing = {NONE, 0, NONE, 0, 0, 0};
+        // 1 falls in beat 2, 2 in beat 6, as he comes to it, 0 in beat 7.
+        int[] much = {1, 1, 0, 3, 5, 1};
+        for (int what = 0; what < 6; what++) {
+            DUE.is("much " + what, x.after(0, 0, what), much[what]);
+            DUE.is("nothing " + what, x.after(0, 1, what), nothing[what]);
+            x.drawn(0, what, 60, 0);
+            DUE.is("nothing " + what, x.after(1, 1, what), nothing[what]);
+        }
+        int[] dues = {0, 7, 3, 0, 0, 6, 6};
+        for (int i = 0; i < dues.length; i++) {
+            int what = i < 5 ? i : i + 5;
+            x.after(0, 0, 0);
+            DUE.is("state " + what, x.state(1, 1, 0, what), dues[i]);
+            x.after(0, 0, 0);
+            DUE.is("drawn " + what, x.drawn(1, 5, 0, what), dues[i]);
+        }
     }
 
     private static void afterWaysAndMost() {

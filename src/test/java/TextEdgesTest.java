@@ -186,6 +186,18 @@ public final class TextEdgesTest {
         for (String word : new String[] {"waits", "wai", "runn", "ru", "sett", "se", "gusts", "gus", "oils", "oi", "az"})
             fault(SHOW, word + " 1;", 1, 0);
         for (String word : new String[] {"runss", "run", "stoo", "stoodd", "la", "layy"}) fault(LOG, word + " 1 1;", 1, 0);
+        String[][] known = {{"speed", "start", "plate"}, {"wait", "run", "set", "gust", "oil"}, {"runs", "stood", "lay"}};
+        for (int sort = 0; sort < 3; sort++) {
+            for (String word : known[sort]) {
+                for (char c = 'a'; c <= 'z'; c++) {
+                    // As long as it goes: a letter more makes another word, at the place where it begins.
+                    fault(sort, word + c + " 1 1 1;", 1, 0);
+                    fault(sort, c + word + " 1 1 1;", 1, 0);
+                    for (int i = 0; i < word.length(); i++)
+                        if (word.charAt(i) != c) fault(sort, word.substring(0, i) + c + word.substring(i + 1) + " 1 1 1;", 1, 0);
+                }
+            }
+        }
         for (char c : new char[] {'`', '{', 'A', 'Z', '@', '['}) {
             fault(STAGE, c + "", 1, 0);
             fault(STAGE, "speed" + c + " 1;", 1, 5);
